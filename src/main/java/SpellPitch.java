@@ -593,17 +593,20 @@ public final class SpellPitch {
             int states = KEYS * picksAhead;
             System.arraycopy(values, firstState[moment + 1], ahead, 0, states);
             System.arraycopy(ways, 0, waysAhead, 0, states);
-            foldLines(states, picksAhead, KEYS, keyLinks, 0);
+            foldLines(1, picksAhead, KEYS, keyLinks, 0);
             linkSteps(moment);
             for (int place = 0; place < sounds; place++) {
-                foldLines(states, PICKS[sounds - 1 - place], OPTIONS, stepLinks, place * OPTIONS * OPTIONS);
+                int blocks = KEYS * PICKS[place];
+                foldLines(blocks, PICKS[sounds - 1 - place], OPTIONS, stepLinks, place * OPTIONS * OPTIONS);
             }
         }
 
-        // A line is the states ahead that differ in one part alone; they lie stride apart.
-        private void foldLines(int states, int stride, int size, int[] links, int firstLink) {
-            for (int block = 0; block < states; block += stride * size) {
-                for (int first = block; first < block + stride; first++) {
+        // A line is the states ahead that differ in one part alone: they lie stride apart, so a
+        // block of stride times size states has stride lines.
+        private void foldLines(int blocks, int stride, int size, int[] links, int firstLink) {
+            for (int block = 0; block < blocks; block++) {
+                for (int offset = 0; offset < stride; offset++) {
+                    int first = block * stride * size + offset;
                     for (int i = 0; i < size; i++) {
                         line[i] = ahead[first + i * stride];
                         lineWays[i] = waysAhead[first + i * stride];

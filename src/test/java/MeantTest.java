@@ -18,28 +18,12 @@ public final class MeantTest {
         DUE.end();
     }
 
-    private static SpellPitch of(int... pitches) {
-        SpellPitch x = new SpellPitch();
-        for (int pitch : pitches) {
-            x.pitch(pitch, false);
-        }
-        return x;
-    }
-
-    private static SpellPitch chord(int... pitches) {
-        SpellPitch x = new SpellPitch();
-        for (int i = 0; i < pitches.length; i++) {
-            x.pitch(pitches[i], i > 0);
-        }
-        return x;
-    }
-
     private static void sumOfEachPart() {
         DUE.is("7: no sounds", new SpellPitch().sum(), 0);
-        DUE.is("7: C, E, G", chord(60, 64, 67).sum(), 0);
+        DUE.is("7: C, E, G", Scores.chord(60, 64, 67).sum(), 0);
         // B, C, C sharp in one chord: 20, 15, 22 (7 apart: 2) in keys of 7, one outside: 2.
-        DUE.is("7: three half steps", chord(59, 60, 61).sum(), 4);
-        SpellPitch x = chord(60, 60, 60);
+        DUE.is("7: three half steps", Scores.chord(59, 60, 61).sum(), 4);
+        SpellPitch x = Scores.chord(60, 60, 60);
         x.fix(0, 3);
         x.fix(1, 15);
         x.fix(2, 27);
@@ -47,12 +31,12 @@ public final class MeantTest {
         // 3 and 27 are 12 and 6 outside 15 .. 21; 12, 12, 24 apart; 3 has two flats.
         DUE.is("7: three names of one pitch", x.sum(), 2 * 18 + 4 + 2 * (6 + 6 + 18));
         DUE.is("7: its signs", x.signs(), 3);
-        SpellPitch y = chord(60, 61);
+        SpellPitch y = Scores.chord(60, 61);
         y.weights(0, 0, 1, 0, 0);
         y.fix(0, 15);
         y.fix(1, 22);
         DUE.is("7: 7 apart is one more than 6", y.sum(), 1);
-        SpellPitch z = chord(60, 66);
+        SpellPitch z = Scores.chord(60, 66);
         z.weights(0, 0, 1, 0, 0);
         z.fix(0, 15);
         z.fix(1, 21);
@@ -60,7 +44,7 @@ public final class MeantTest {
     }
 
     private static int stepOf(int pitch, int name, int next, int nextName) {
-        SpellPitch x = of(pitch, next);
+        SpellPitch x = Scores.line(pitch, next);
         x.weights(0, 0, 0, 1, 0);
         x.fix(0, name);
         x.fix(1, nextName);
@@ -88,7 +72,7 @@ public final class MeantTest {
         DUE.is("7: up by pitch, down by place", stepOf(60, 3, 61, 22), 1);
         DUE.is("7: at the lowest pitch", stepOf(0, 27, 1, 22), 0);
 
-        SpellPitch x = chord(60, 64);
+        SpellPitch x = Scores.chord(60, 64);
         x.pitch(72, false);
         x.pitch(64, true);
         x.pitch(60, true);
@@ -102,7 +86,7 @@ public final class MeantTest {
     }
 
     private static int changeOf(int key, int next) {
-        SpellPitch x = of(60, 66);
+        SpellPitch x = Scores.line(60, 66);
         x.weights(0, 0, 0, 0, 3);
         x.key(0, key);
         x.key(1, next);
@@ -116,7 +100,7 @@ public final class MeantTest {
                 DUE.is("7: key " + key + " to " + next, changeOf(key, next), far == 12 ? 3 : 3 * far);
             }
         }
-        SpellPitch x = of(60, 60, 60);
+        SpellPitch x = Scores.line(60, 60, 60);
         x.weights(0, 0, 0, 0, 20);
         x.key(0, 0);
         x.key(2, 13);
@@ -127,8 +111,8 @@ public final class MeantTest {
 
     private static void signs() {
         DUE.is("8: none", new SpellPitch().signs(), 0);
-        DUE.is("8: C, E, G", chord(60, 64, 67).signs(), 0);
-        SpellPitch x = of(60, 62, 61);
+        DUE.is("8: C, E, G", Scores.chord(60, 64, 67).signs(), 0);
+        SpellPitch x = Scores.line(60, 62, 61);
         x.fix(0, 3);
         x.fix(1, 29);
         x.fix(2, 10);
@@ -143,9 +127,9 @@ public final class MeantTest {
 
     private static void ties() {
         DUE.is("9: no sounds", new SpellPitch().ties(), 1);
-        DUE.is("9: C in 7 keys, B sharp in one, D twice flat in none", of(60).ties(), 8);
-        DUE.is("9: D flat in 4 keys, C sharp in 6", of(61).ties(), 10);
-        SpellPitch x = of(60);
+        DUE.is("9: C in 7 keys, B sharp in one, D twice flat in none", Scores.line(60).ties(), 8);
+        DUE.is("9: D flat in 4 keys, C sharp in 6", Scores.line(61).ties(), 10);
+        SpellPitch x = Scores.line(60);
         x.weights(0, 0, 0, 0, 0);
         DUE.is("9: every choice", x.ties(), 45);
         x.pitch(68, true);
@@ -156,7 +140,7 @@ public final class MeantTest {
         DUE.is("9: one name told", x.ties(), 1350);
         x.key(2, 3);
         DUE.is("9: one key told", x.ties(), 90);
-        SpellPitch many = of(60, 60, 60);
+        SpellPitch many = Scores.line(60, 60, 60);
         many.weights(0, 0, 0, 0, 0);
         DUE.is("9: below the most", many.ties(), 91125);
         many.pitch(68, true);
@@ -175,7 +159,7 @@ public final class MeantTest {
     }
 
     private static void name() {
-        SpellPitch x = of(60, 61, 0, 127, 59, 127);
+        SpellPitch x = Scores.line(60, 61, 0, 127, 59, 127);
         x.fix(0, 15);
         x.fix(1, 22);
         x.fix(2, 27);
@@ -197,12 +181,12 @@ public final class MeantTest {
         DUE.is("10: what MAX", x.name(0, MAX), -2);
         int[] letters = {3, 0, 4, 1, 5, 2, 6};
         for (int name = 0; name < 35; name++) {
-            SpellPitch y = of(60 + Math.floorMod(7 * (name - 15), 12));
+            SpellPitch y = Scores.line(60 + Math.floorMod(7 * (name - 15), 12));
             y.fix(0, name);
             DUE.is("10: LETTER of " + name, y.name(0, 1), letters[name % 7]);
             DUE.is("10: SIGNS of " + name, y.name(0, 2), name / 7);
         }
-        SpellPitch lowest = of(0);
+        SpellPitch lowest = Scores.line(0);
         lowest.fix(0, 3);
         DUE.is("10: D twice flat at 0", lowest.name(0, 3), 1);
     }
@@ -216,7 +200,7 @@ public final class MeantTest {
     }
 
     private static void keyOf() {
-        SpellPitch x = chord(60, 64, 67);
+        SpellPitch x = Scores.chord(60, 64, 67);
         x.pitch(66, false);
         DUE.is("11: the only key that has them all", x.keyOf(0), 8);
         DUE.is("11: of its second", x.keyOf(1), 8);
@@ -231,7 +215,7 @@ public final class MeantTest {
     }
 
     private static void turns() {
-        SpellPitch x = of(60, 60, 60, 60, 60);
+        SpellPitch x = Scores.line(60, 60, 60, 60, 60);
         DUE.is("12: none", x.turned(), 0);
         DUE.is("13: none", x.turn(0), -1);
         int[] keys = {0, 12, 12, 0, 13};
@@ -254,7 +238,7 @@ public final class MeantTest {
         DUE.is("12: none any more", x.turned(), 0);
         DUE.is("13: none any more", x.turn(0), -1);
         // MOMENTS are counted, not SOUNDS.
-        SpellPitch y = chord(60, 64, 67);
+        SpellPitch y = Scores.chord(60, 64, 67);
         y.pitch(60, false);
         y.key(0, 14);
         y.key(3, 2);
@@ -263,27 +247,27 @@ public final class MeantTest {
     }
 
     private static void firstOfSeveral() {
-        SpellPitch x = of(60);
+        SpellPitch x = Scores.line(60);
         DUE.is("7: the lowest key that has C", x.keyOf(0), 2);
         DUE.is("7: fewest signs", x.name(0, 0), 15);
-        SpellPitch y = of(61);
+        SpellPitch y = Scores.line(61);
         DUE.is("7: flat is first", y.name(0, 0), 10);
         DUE.is("7: in the lowest key", y.keyOf(0), 0);
-        SpellPitch b = of(59);
+        SpellPitch b = Scores.line(59);
         DUE.is("7: fewest signs are ahead of the lesser key: name", b.name(0, 0), 20);
         DUE.is("7: fewest signs are ahead of the lesser key: key", b.keyOf(0), 7);
-        SpellPitch z = of(60, 61);
+        SpellPitch z = Scores.line(60, 61);
         z.weights(0, 0, 0, 0, 0);
         DUE.is("7: for nothing, the first key", z.keyOf(0), 0);
         DUE.is("7: fewest signs for nothing", z.name(0, 0), 15);
         DUE.is("7: the first key again", z.keyOf(1), 0);
         DUE.is("7: the lesser of one sign each", z.name(1, 0), 10);
-        SpellPitch w = chord(61, 61);
+        SpellPitch w = Scores.chord(61, 61);
         w.weights(0, 0, 0, 0, 0);
         DUE.is("7: first", w.name(0, 0), 10);
         DUE.is("7: second", w.name(1, 0), 10);
         // An earlier MOMENT is compared ahead of a later one.
-        SpellPitch v = of(60, 60);
+        SpellPitch v = Scores.line(60, 60);
         v.weights(0, 0, 0, 0, 1);
         v.key(1, 3);
         DUE.is("7: least cost is ahead of the lesser key", v.keyOf(0), 3);
@@ -292,7 +276,7 @@ public final class MeantTest {
     }
 
     private static void asksChangeNothing() {
-        SpellPitch x = of(61, 63, 66);
+        SpellPitch x = Scores.line(61, 63, 66);
         x.pitch(70, true);
         for (int i = 0; i < 3; i++) {
             DUE.all("7 to 13: asked again",

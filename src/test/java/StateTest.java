@@ -16,14 +16,6 @@ public final class StateTest {
         DUE.end();
     }
 
-    private static SpellPitch of(int... pitches) {
-        SpellPitch x = new SpellPitch();
-        for (int pitch : pitches) {
-            x.pitch(pitch, false);
-        }
-        return x;
-    }
-
     private static void newObject() {
         SpellPitch x = new SpellPitch();
         DUE.is("1: sum()", x.sum(), 0);
@@ -39,37 +31,37 @@ public final class StateTest {
         DUE.is("1: transpose(0, 19, 0)", x.transpose(0, 19, 0), -1);
         DUE.is("1: micro(0, 0, 2)", x.micro(0, 0, 2), -1);
         DUE.is("1: clear()", x.clear(), 0);
-        SpellPitch other = of(60);
+        SpellPitch other = Scores.line(60);
         DUE.is("1: objects share nothing", x.name(0, 0), -1);
         DUE.is("1: the other has its own", other.name(0, 0), 15);
     }
 
     private static void weightsOfANewObject() {
-        SpellPitch out = of(60);
+        SpellPitch out = Scores.line(60);
         out.fix(0, 27);
         out.key(0, 7);
         DUE.is("1: OUT 2, 7 above the key", out.sum(), 14);
-        SpellPitch below = of(60);
+        SpellPitch below = Scores.line(60);
         below.fix(0, 3);
         below.key(0, 7);
         DUE.is("1: OUT 2, 11 below the key, and TWICE 4", below.sum(), 26);
-        SpellPitch twice = of(62);
+        SpellPitch twice = Scores.line(62);
         twice.fix(0, 29);
         twice.key(0, 14);
         DUE.is("1: OUT 2, twice, and TWICE 4", twice.sum(), 8);
-        SpellPitch wide = of(60);
+        SpellPitch wide = Scores.line(60);
         wide.pitch(61, true);
         wide.fix(0, 15);
         wide.fix(1, 22);
         wide.key(0, 8);
         DUE.is("1: OUT 2, and WIDE 2", wide.sum(), 4);
-        SpellPitch step = of(60, 60);
+        SpellPitch step = Scores.line(60, 60);
         step.fix(0, 15);
         step.fix(1, 27);
         step.key(0, 11);
         step.key(1, 11);
         DUE.is("1: OUT 2, six times, and STEP 3", step.sum(), 15);
-        SpellPitch change = of(60, 60);
+        SpellPitch change = Scores.line(60, 60);
         change.key(0, 7);
         change.key(1, 8);
         DUE.is("1: CHANGE 5", change.sum(), 5);
@@ -123,7 +115,7 @@ public final class StateTest {
     }
 
     private static void key() {
-        SpellPitch x = of(60, 62);
+        SpellPitch x = Scores.line(60, 62);
         x.pitch(65, true);
         DUE.is("3: told", x.key(0, 0), 15);
         DUE.is("3: kept", x.keyOf(0), 0);
@@ -154,7 +146,7 @@ public final class StateTest {
     }
 
     private static void fix() {
-        SpellPitch x = of(60, 68);
+        SpellPitch x = Scores.line(60, 68);
         DUE.is("4: as it is meant", x.name(0, 0), 15);
         DUE.is("4: told", x.fix(0, 3), 35);
         DUE.is("4: kept", x.name(0, 0), 3);
@@ -178,11 +170,11 @@ public final class StateTest {
         DUE.is("4: 23 sounds as 68", x.fix(1, 23), 11);
         DUE.is("4: 35 is no name of 68", x.fix(1, 35), 23);
         DUE.is("4: it is not told", x.fix(1, 35), 35);
-        SpellPitch edges = of(127, 0, 58);
+        SpellPitch edges = Scores.line(127, 0, 58);
         DUE.is("4: the first name", edges.fix(2, 34), -2);
         for (int pitch = 0; pitch < 12; pitch++) {
             int names = 0;
-            SpellPitch y = of(pitch);
+            SpellPitch y = Scores.line(pitch);
             for (int name = 0; name < 35; name++) {
                 names += y.fix(0, name) >= 0 ? 1 : 0;
             }
@@ -191,7 +183,7 @@ public final class StateTest {
     }
 
     private static void weights() {
-        SpellPitch x = of(60);
+        SpellPitch x = Scores.line(60);
         x.fix(0, 27);
         x.key(0, 7);
         DUE.is("5: weights", x.weights(3, 0, 0, 0, 0), 1);
@@ -210,7 +202,7 @@ public final class StateTest {
         DUE.is("5: the least", x.weights(0, 0, 0, 0, 0), 1);
         DUE.is("5: OUT 0", x.sum(), 0);
 
-        SpellPitch y = of(60, 60);
+        SpellPitch y = Scores.line(60, 60);
         y.pitch(62, true);
         y.fix(0, 15);
         y.fix(1, 3);
@@ -234,7 +226,7 @@ public final class StateTest {
     }
 
     private static void clear() {
-        SpellPitch x = of(60, 60);
+        SpellPitch x = Scores.line(60, 60);
         x.pitch(64, true);
         x.weights(3, 0, 0, 0, 0);
         x.fix(0, 27);
