@@ -94,14 +94,15 @@ public final class IntervalTest {
     }
 
     private static void add() {
-        SpellPitch x = new SpellPitch();
         for (int v = -1; v <= 39; v++) {
+            SpellPitch x = new SpellPitch();
             for (int w = -1; w <= 39; w++) {
                 boolean none = v < 0 || v > 38 || w < 0 || w > 38;
                 int both = v + w - 19;
                 DUE.is("16: " + v + " and " + w, x.add(v, w), none ? -2 : both < 0 || both > 38 ? -3 : both);
             }
         }
+        SpellPitch x = new SpellPitch();
         DUE.is("16: MIN", x.add(MIN, 0), -2);
         DUE.is("16: MAX", x.add(MAX, MAX), -2);
         DUE.is("16: MIN, the other", x.add(19, MIN), -2);

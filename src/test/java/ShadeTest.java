@@ -79,14 +79,15 @@ public final class ShadeTest {
     }
 
     private static void equal() {
-        SpellPitch x = new SpellPitch();
         for (int name = 0; name < 35; name++) {
+            SpellPitch x = new SpellPitch();
             for (int other = 0; other < 35; other++) {
                 int far = Math.abs(name - other);
                 int want = far == 0 ? 2 : far == 12 || far == 24 ? 1 : 0;
                 DUE.is("20: " + name + " and " + other, x.equal(name, other), want);
             }
         }
+        SpellPitch x = new SpellPitch();
         int[] wrong = {-1, 35, MIN, MAX};
         for (int w : wrong) {
             DUE.is("20: " + w + " first", x.equal(w, 0), -2);
