@@ -1,5 +1,7 @@
 /** 'Terms', what a CHOICE costs and which one is MEANT. */
 final class CostBounds {
+    private static final String AT_THE_SAME_PLACE = "for each SOUND of it that is at the same place"
+        + " (first, second, third) in its MOMENT as one in the MOMENT before";
     private static final int KEY = Scores.UNTOLD_KEY;
     private static final int NAME = Scores.UNTOLD_NAME;
 
@@ -16,6 +18,8 @@ final class CostBounds {
         change();
         turn();
         samePlace();
+        samePlaceLater();
+        samePlaceWhenFull();
         onePitch();
         oneOrTwoApart();
         leastCost();
@@ -125,8 +129,7 @@ final class CostBounds {
     }
 
     private void samePlace() {
-        b.sentence("Terms", "for each SOUND of it that is at the same place (first, second, third) in its MOMENT as one"
-            + " in the MOMENT before");
+        b.sentence("Terms", AT_THE_SAME_PLACE);
         SpellPitch x = new SpellPitch();
         x.weights(0, 0, 0, 5, 0);
         Scores.moment(x, 7, 60, 15, 62, 17, 64, 19);
@@ -149,6 +152,38 @@ final class CostBounds {
         b.is("another place does not count", other.sum(), 0);
         Scores.moment(other, 7, 60, 3);
         b.is("nor does a MOMENT further back", other.sum(), 0);
+    }
+
+    private void samePlaceLater() {
+        b.sentence("Terms", AT_THE_SAME_PLACE);
+        SpellPitch x = new SpellPitch();
+        x.weights(0, 0, 0, 5, 0);
+        Scores.moment(x, 7, 40, NAME, 50, NAME);
+        Scores.moment(x, 7, 61, 22, 63, 24);
+        Scores.moment(x, 7, 61, NAME, 63, NAME);
+        Scores.moment(x, 7, 63, NAME, 61, NAME);
+        b.is("all go on as they were told", x.sum(), 0);
+        int[] names = {22, 24, 22, 24, 24, 22};
+        for (int i = 0; i < names.length; i++) {
+            b.is("NAME of " + (i + 2), x.name(i + 2, 0), names[i]);
+        }
+    }
+
+    private void samePlaceWhenFull() {
+        b.sentence("Terms", AT_THE_SAME_PLACE);
+        for (int last = 1; last <= 3; last++) {
+            SpellPitch x = new SpellPitch();
+            x.weights(0, 0, 0, 5, 0);
+            for (int i = 0; i < 15 - last; i++) {
+                Scores.moment(x, 7, 40, 19);
+            }
+            Scores.moment(x, 7, 60, 15, 60, 15, 60, 15);
+            for (int i = 0; i < last; i++) {
+                x.fix(x.pitch(60, i > 0), 27);
+                b.is("so many of the last MOMENT pay", x.sum(), 5 * (i + 1));
+            }
+            b.is("there is no room any more", x.pitch(60, false), -4);
+        }
     }
 
     private static int stepped(int pitch, int name, int next, int nextName) {
@@ -187,6 +222,24 @@ final class CostBounds {
             String call = row[0] + " as " + row[1] + ", then " + row[2] + " as " + row[3];
             b.is(call, stepped(row[0], row[1], row[2], row[3]), 20 * row[4]);
         }
+        for (int name = 0; name < 35; name++) {
+            for (int next = 0; next < 35; next++) {
+                for (int up : new int[] {-3, -2, -1, 1, 2, 3}) {
+                    stepByPlaces(Scores.pitchOf(name), name, Scores.pitchOf(name) + up, next);
+                }
+            }
+        }
+    }
+
+    private void stepByPlaces(int pitch, int name, int next, int nextName) {
+        if (!Plain.sounds(nextName, next)) {
+            return;
+        }
+        int up = next - pitch;
+        int places = Plain.place(nextName, next) - Plain.place(name, pitch);
+        boolean pays = Math.abs(up) <= 2 && places != (up > 0 ? 1 : -1);
+        b.is(pitch + " as " + name + ", then " + next + " as " + nextName, stepped(pitch, name, next, nextName),
+            pays ? 20 : 0);
     }
 
     private void leastCost() {
