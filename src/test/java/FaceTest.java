@@ -38,6 +38,11 @@ public final class FaceTest {
             boolean changes = Modifier.isStatic(field.getModifiers()) && !Modifier.isFinal(field.getModifiers());
             due.is(field + " is no static state", changes ? 1 : 0, 0);
         }
+        for (Class<?> inside : type.getDeclaredClasses()) {
+            int open = inside.getModifiers() & (Modifier.PUBLIC | Modifier.PROTECTED);
+            due.is(inside + " is private or package-visible", open, 0);
+            due.is(inside + " is static", inside.getModifiers() & Modifier.STATIC, Modifier.STATIC);
+        }
         Constructor<?>[] constructors = type.getDeclaredConstructors();
         due.is("constructors", constructors.length, 1);
         due.is("its modifiers", constructors[0].getModifiers(), Modifier.PUBLIC);
